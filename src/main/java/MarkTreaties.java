@@ -29,6 +29,8 @@ public final class MarkTreaties {
     private static final int LULLED_YEARS = 12;
     private static final int ASKED_OF_FITS = 8;
     private static final int ANY = -1;
+    private static final int WHAT_MARK = 3;
+    private static final int WHAT_FORCE = 4;
 
     private static final int TREATY = 0;
     private static final int PEACE = 1;
@@ -45,8 +47,10 @@ public final class MarkTreaties {
     private final World world = new World();
     private final World kept = new World();
     private boolean isKept = false;
-    /** What only might be is played here, so that asking makes no objects. */
+    /** What only might be is played in these, so that asking makes no objects. */
     private final World trial = new World();
+    private final Treaty alone = new Treaty();
+    private final int[] ups = new int[FORESEEN];
     private final Strains strains = new Strains();
     private final int[] gains = new int[TREATIES];
     private final int[] tornGains = new int[TREATIES];
@@ -171,9 +175,10 @@ public final class MarkTreaties {
         if (!isTreaty(treaty) || !isAsked || !isWithin(n, 100)) {
             return finding(BEYOND);
         }
-        Treaty alone = tryAlone(treaty);
-        trial.passYears(n);
-        return alone.tell(what, trial.up);
+        foreseeUps(n);
+        tryAlone(treaty);
+        alone.liveYears(ups, n, world.yard);
+        return alone.tell(what, world.up);
     }
 
     public int gold(int n) {
@@ -189,10 +194,11 @@ public final class MarkTreaties {
         if (!isTreaty(treaty)) {
             return finding(BEYOND);
         }
-        Treaty alone = tryAlone(treaty);
+        foreseeUps(FORESEEN);
+        tryAlone(treaty);
         int before = alone.broken;
         for (int n = 1; n <= FORESEEN; n++) {
-            trial.pass();
+            alone.live(ups[n - 1], world.yard);
             if (alone.broken > before) {
                 return n;
             }
@@ -230,12 +236,15 @@ public final class MarkTreaties {
         if (!isTreaty(treaty) || !isWithin(v, MOST_YEARS)) {
             return finding(BEYOND);
         }
-        Treaty alone = tryAlone(treaty);
+        foreseeUps(FORESEEN);
+        tryAlone(treaty);
         for (int n = 0; n <= FORESEEN; n++) {
             if (alone.held >= v) {
                 return n;
             }
-            trial.pass();
+            if (n < FORESEEN) {
+                alone.live(ups[n], world.yard);
+            }
         }
         return finding(NONE);
     }
@@ -264,12 +273,13 @@ public final class MarkTreaties {
         if (!isTreaty(treaty) || !isWithin(n, 60)) {
             return finding(BEYOND);
         }
+        foreseeUps(n);
         int best = 0;
         int least = MOST_YEARS + 1;
         for (int kind = 0; kind < ALL_KINDS; kind++) {
-            Treaty alone = tryAlone(treaty);
+            tryAlone(treaty);
             alone.kind = kind;
-            trial.passYears(n);
+            alone.liveYears(ups, n, world.yard);
             if (alone.broken < least) {
                 least = alone.broken;
                 best = kind;
@@ -282,11 +292,12 @@ public final class MarkTreaties {
         if (!isTreaty(treaty) || !isWithin(n, 60)) {
             return finding(BEYOND);
         }
+        foreseeUps(n);
         int saving = 0;
         for (int figure = 0; figure < FIGURES; figure++) {
-            Treaty alone = tryAlone(treaty);
+            tryAlone(treaty);
             alone.mark &= ~(1 << figure);
-            trial.passYears(n);
+            alone.liveYears(ups, n, world.yard);
             if (alone.force == 1) {
                 saving |= 1 << figure;
             }
@@ -336,10 +347,12 @@ public final class MarkTreaties {
             return finding(wrong);
         }
         int asked = sheets[s].lastTold(ASKED_OF_FITS);
+        foreseeUps(asked);
         int fitting = 0;
         for (int mark = 0; mark <= ALL_FIGURES; mark++) {
-            tryAlone(treaty).mark = mark;
-            if (followsSheet(sheets[s], asked, 4)) {
+            tryAlone(treaty);
+            alone.mark = mark;
+            if (followsSheet(sheets[s], asked, WHAT_FORCE)) {
                 fitting++;
             }
         }
@@ -352,10 +365,12 @@ public final class MarkTreaties {
             return finding(wrong);
         }
         int asked = sheets[s].lastTold(NUMBERS);
+        foreseeUps(asked);
         int fitting = 0;
         for (int kind = 0; kind < ALL_KINDS; kind++) {
-            tryAlone(treaty).kind = kind;
-            if (followsSheet(sheets[s], asked, 3)) {
+            tryAlone(treaty);
+            alone.kind = kind;
+            if (followsSheet(sheets[s], asked, WHAT_MARK)) {
                 fitting |= 1 << kind;
             }
         }
@@ -619,54 +634,62 @@ public final class MarkTreaties {
         return isTreaty(treaty) ? -1 : BEYOND;
     }
 
-    /** Puts one treaty into the trial without the others: what befalls it hangs on none of them. */
-    private Treaty tryAlone(int treaty) {
-        trial.becomeAlone(world, treaty);
-        return trial.treaties[0];
+    /** A treaty may be tried without the others: what befalls it hangs on none of them. */
+    private void tryAlone(int treaty) {
+        if (isTreaty(treaty)) {
+            alone.become(world.treaties[treaty]);
+        }
     }
 
+    /** Who will be up in each of the next years: that hangs on no treaty. */
+    private void foreseeUps(int n) {
+        int up = world.up;
+        int year = world.year;
+        for (int i = 0; i < n && i < FORESEEN; i++) {
+            up = toggled(up, world.list[year % PLACES]);
+            ups[i] = up;
+            year = Math.min(year + 1, LAST_YEAR);
+        }
+    }
+
+    /** Whether what is told of the treaty alone, now and year by year, is as a sheet has it. */
     private boolean followsSheet(Sheet told, int asked, int what) {
-        Treaty alone = trial.treaties[0];
         for (int i = 0; i < asked; i++) {
-            int due = told.numbers[i];
-            if (due != ANY && due != alone.tell(what, trial.up)) {
-                return false;
+            if (isWithin(i - 1, FORESEEN - 1)) {
+                alone.live(ups[i - 1], world.yard);
             }
-            if (i + 1 < asked) {
-                trial.pass();
+            if (!told.allows(i, alone.tell(what, world.up))) {
+                return false;
             }
         }
         return true;
     }
 
     /**
-     * Until a treaty breaks, marks don't hang on who is up; so one play with all asleep tells every mark, and
-     * figures that are lulled only lack among those that get up otherwise.
+     * Until a treaty breaks, its marks don't hang on who is up: so a life with all asleep tells them, and lulled
+     * figures only lack among those that would be up.
      */
     private void foreseeStrains(int n) {
         strains.size = 0;
-        int up = world.up;
-        trial.become(world);
-        trial.lullAll();
-        for (int i = 0; i < n; i++) {
-            up = toggled(up, world.list[trial.year % PLACES]);
-            for (int t = 0; t < trial.size; t++) {
-                strains.addOf(trial.treaties[t], up);
+        foreseeUps(n);
+        for (int t = 0; t < world.size; t++) {
+            tryAlone(t);
+            for (int i = 0; i < n; i++) {
+                strains.addOf(alone, ups[i]);
+                alone.live(0, world.yard);
             }
-            trial.pass();
         }
     }
 
     private void foreseeGains(int n) {
+        foreseeUps(n);
         for (int t = 0; t < world.size; t++) {
             tryAlone(t);
-            trial.passYears(n);
-            gains[t] = trial.gold;
-            Treaty torn = tryAlone(t);
-            torn.force = 0;
-            torn.waits = 0;
-            trial.passYears(n);
-            tornGains[t] = trial.gold;
+            gains[t] = alone.liveYears(ups, n, world.yard);
+            tryAlone(t);
+            alone.force = 0;
+            alone.waits = 0;
+            tornGains[t] = alone.liveYears(ups, n, world.yard);
         }
     }
 
@@ -860,6 +883,15 @@ public final class MarkTreaties {
             return brings;
         }
 
+        /** Years of it, as figures are up in each; answers the gold that they bring. */
+        private int liveYears(int[] ups, int n, int yard) {
+            int brings = 0;
+            for (int i = 0; i < n && i < ups.length; i++) {
+                brings += live(ups[i], yard);
+            }
+            return brings;
+        }
+
         private void await(int yard) {
             waits = Math.min(waits + 1, MOST_YEARS);
             int renewal = renews();
@@ -904,8 +936,11 @@ public final class MarkTreaties {
         }
 
         private void become(World model) {
-            becomeButTreaties(model);
+            yard = model.yard;
+            up = model.up;
+            System.arraycopy(model.list, 0, list, 0, PLACES);
             gold = model.gold;
+            year = model.year;
             z = model.z;
             size = model.size;
             for (int t = 0; t < size && t < TREATIES; t++) {
@@ -914,35 +949,11 @@ public final class MarkTreaties {
             System.arraycopy(model.spots, 0, spots, 0, SPOTS);
         }
 
-        /** With one treaty of the model's, which is its number 0, and no gold but what that one brings. */
-        private void becomeAlone(World model, int treaty) {
-            becomeButTreaties(model);
-            gold = 0;
-            size = 1;
-            if (isWithin(treaty, TREATIES - 1)) {
-                treaties[0].become(model.treaties[treaty]);
-            }
-        }
-
-        private void becomeButTreaties(World model) {
-            yard = model.yard;
-            up = model.up;
-            year = model.year;
-            System.arraycopy(model.list, 0, list, 0, PLACES);
-        }
-
         /** Signs a new treaty on paper that is made now, if there is room. */
         private void sign(int kind, int first, int other) {
             if (size < TREATIES) {
                 treaties[size].begin(kind, first, other, yard);
                 size++;
-            }
-        }
-
-        private void lullAll() {
-            up = 0;
-            for (int i = 0; i < PLACES; i++) {
-                list[i] = NOTHING;
             }
         }
 
@@ -1096,6 +1107,10 @@ public final class MarkTreaties {
             if (isWithin(i, length - 1)) {
                 numbers[i] = bits == 8 ? (byte) v : bits == 16 ? (short) v : v;
             }
+        }
+
+        private boolean allows(int i, int v) {
+            return !isWithin(i, length - 1) || numbers[i] == ANY || numbers[i] == v;
         }
 
         private boolean hasRange(int from, int n) {
@@ -1300,8 +1315,10 @@ public final class MarkTreaties {
 
         private void advanceDigits() {
             while (end < length && isDigit(tape[end])) {
-                // Held just above the limit, so that no row of digits is long enough to wrap round to a number.
-                value = Math.min(value * 10 + tape[end] - '0', MOST_YEARS + 1);
+                // It stops growing above the limit, so that no row of digits wraps round to a number.
+                if (value <= MOST_YEARS) {
+                    value = value * 10 + tape[end] - '0';
+                }
                 end++;
             }
         }
