@@ -4,6 +4,7 @@ public final class ImageTests {
 
     public static void main(String[] args) {
         imageAndUndo();
+        undoneTreaties();
         forget();
         count();
         status();
@@ -50,6 +51,27 @@ public final class ImageTests {
         x.change(0, 5, 4);
         x.undo();
         due.is("39 what is kept changes with nothing", x.of(0, 5), 12);
+    }
+
+    private static void undoneTreaties() {
+        MarkTreaties x = Due.from("treaty 0 1 mark 2 torn");
+        x.image();
+        Due.read(x, "treaty 2 3 mark 1 held 9; lease 4 5 torn; up 1");
+        x.change(1, 7, 5);
+        x.change(2, 7, 5);
+        x.undo();
+        x.set(1, 1);
+        long[] told = {0, 0, 0, 0, 1, 0, 0, -1};
+        for (int what = 0; what < 8; what++) {
+            due.is("39 none of those that are no more, " + what, x.now(what), told[what]);
+        }
+        due.is("39 broken", x.count(4), 0);
+        due.is("39 no war", x.wars(4), 0);
+        due.is("39 no gold", x.gold(3), 0);
+        due.is("39 no such treaty", x.of(1, 0), Due.BEYOND);
+        Due.row(x, 0, 8, 4, 4);
+        due.is("39 one to load", x.load(0), 1);
+        due.is("39 one to judge", x.judge(0), 1);
     }
 
     private static void forget() {

@@ -122,6 +122,12 @@ public final class PeaceTests {
         waiting.change(0, 6, 2);
         due.is("22 brings gold from its renewal on", waiting.tear(1, 2), 0);
         due.is("22 torn again it waits again", waiting.tear(0, 2), 1);
+        MarkTreaties eight = new MarkTreaties();
+        for (int t = 0; t < 8; t++) {
+            eight.treaty(0, 0, 1);
+        }
+        due.is("22 all of eight", eight.tear(0, 5), 255);
+        due.is("22 seven of eight", eight.tear(5, 5), 127);
         // The trade breaks in its second year; torn, it is renewed in the third, and brings nothing till then.
         MarkTreaties events = Due.from("trade 0 1 mark 12; yard 12; event 0 2; event 1 3; lease 2 3 mark 0");
         due.is("22 a year of it, all of the lease", events.tear(3 + 9, 3), 0);

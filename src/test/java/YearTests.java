@@ -154,7 +154,10 @@ public final class YearTests {
         due.is("25 to the year ahead of the last", x.wakings(20), 1);
         due.is("25 above the last year", x.wakings(20), Due.STATE);
         due.is("25 beyond is asked first", x.wakings(21), Due.BEYOND);
-        due.is("10 to the last year", x.go(18), 1);
+        x.image();
+        due.is("10 to the last year", x.go(19), 1);
+        x.undo();
+        x.go(18);
         due.is("25 to the last year", x.wakings(1), x.now(1));
         due.is("10 the last year", x.now(0), 99999);
         due.is("10 no more", x.go(1), Due.STATE);
@@ -255,6 +258,9 @@ public final class YearTests {
         due.is("15 nothing changes", x.now(0), 3);
         due.is("16 no treaties", new MarkTreaties().peace(), 0);
         due.is("16 a first question", Due.from("trade 0 5 torn").peace(), 3);
+        MarkTreaties torn = Due.from("trade 0 5");
+        torn.change(0, 4, 0);
+        due.is("16 as it is by now", torn.peace(), 3);
         due.is("15 a first question", Due.from("trade 0 5; up 3; yard 3; event 1 1").war(0, 5), Due.NONE);
         due.is("15 the last power", Due.from("trade 0 5 mark 3; up 1; event 1 1").war(0, 5), 2);
     }
