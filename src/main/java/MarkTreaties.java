@@ -348,15 +348,15 @@ public final class MarkTreaties {
         }
         int asked = sheets[s].lastTold(ASKED_OF_FITS);
         foreseeUps(asked);
+        int weighing = figuresWeighing(treaty, asked);
         int fitting = 0;
-        for (int mark = 0; mark <= ALL_FIGURES; mark++) {
-            tryAlone(treaty);
-            alone.mark = mark;
-            if (followsSheet(sheets[s], asked, WHAT_FORCE)) {
+        for (int mark = 0; mark <= weighing; mark++) {
+            if ((mark & ~weighing) == 0 && fitsMark(sheets[s], asked, treaty, mark)) {
                 fitting++;
             }
         }
-        return fitting;
+        // The other figures may be in a mark or not, as they like.
+        return fitting << FIGURES - Integer.bitCount(weighing);
     }
 
     public int kinds(int s, int treaty) {
@@ -652,6 +652,29 @@ public final class MarkTreaties {
         }
     }
 
+    /** Which figures of its mark now may make out whether a treaty is in force in the next years. */
+    private int figuresWeighing(int treaty, int n) {
+        tryAlone(treaty);
+        if (alone.force == 0 || alone.kind == BLANK) {
+            return 0;
+        }
+        // Which figure fades hangs on those that sleep, too.
+        if (alone.fadesWithin(n)) {
+            return ALL_FIGURES;
+        }
+        int weighing = 0;
+        for (int i = 0; i < n && i < FORESEEN; i++) {
+            weighing |= ups[i];
+        }
+        return weighing;
+    }
+
+    private boolean fitsMark(Sheet told, int asked, int treaty, int mark) {
+        tryAlone(treaty);
+        alone.mark = mark;
+        return followsSheet(told, asked, WHAT_FORCE);
+    }
+
     /** Whether what is told of the treaty alone, now and year by year, is as a sheet has it. */
     private boolean followsSheet(Sheet told, int asked, int what) {
         for (int i = 0; i < asked; i++) {
@@ -904,10 +927,23 @@ public final class MarkTreaties {
         }
 
         private void fade() {
-            int every = fades();
-            if (every > 0 && held % every == 0) {
+            if (isToFade(held)) {
                 mark &= ~Integer.highestOneBit(mark);
             }
+        }
+
+        private boolean isToFade(int years) {
+            int every = fades();
+            return every > 0 && years % every == 0;
+        }
+
+        private boolean fadesWithin(int n) {
+            for (int i = 1; i <= n; i++) {
+                if (isToFade(Math.min(held + i, MOST_YEARS))) {
+                    return true;
+                }
+            }
+            return false;
         }
     }
 
