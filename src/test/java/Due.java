@@ -19,11 +19,23 @@ final class Due {
         }
     }
 
+    /** Feeds a text, four bytes a call: an object is promised for 512 calls alone. */
+    static void feed(MarkTreaties x, String text) {
+        for (int i = 0; i < text.length(); i += 4) {
+            int n = Math.min(4, text.length() - i);
+            int bytes = 0;
+            for (int k = 0; k < n; k++) {
+                bytes = bytes << 8 | text.charAt(i + k) & 255;
+            }
+            if (x.feed(bytes, n) < 0) {
+                throw new IllegalArgumentException("no room for " + text);
+            }
+        }
+    }
+
     /** Feeds a text, which must have room, and reads it. */
     static int read(MarkTreaties x, String text) {
-        for (int i = 0; i < text.length(); i++) {
-            x.feed(text.charAt(i), 1);
-        }
+        feed(x, text);
         return x.text();
     }
 
@@ -34,6 +46,21 @@ final class Due {
             throw new IllegalArgumentException(text);
         }
         return x;
+    }
+
+    /** Makes a call of the face by its name. */
+    static long call(MarkTreaties x, String name, int... arguments) {
+        Class<?>[] types = new Class<?>[arguments.length];
+        Object[] values = new Object[arguments.length];
+        for (int i = 0; i < arguments.length; i++) {
+            types[i] = int.class;
+            values[i] = arguments[i];
+        }
+        try {
+            return ((Number) MarkTreaties.class.getMethod(name, types).invoke(x, values)).longValue();
+        } catch (ReflectiveOperationException thrown) {
+            throw new IllegalStateException(name + java.util.Arrays.toString(arguments), thrown);
+        }
     }
 
     static void row(MarkTreaties x, int s, int bits, int... numbers) {
