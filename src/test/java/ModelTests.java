@@ -33,10 +33,48 @@ public final class ModelTests {
                 wrong++;
             }
         }
+        wrong += everySlip("dynasty 4 5 mark 2051 held 120 torn;yard 9; up 10 ;event 3 11");
+        wrong += everySlip("up 4095;event 5 12;lease 0 1mark0;truce 5 0 held 9999;peace 1 2torn");
         System.out.println(wrong == 0 ? "program and model agree" : wrong + " runs differ");
         if (wrong != 0) {
             System.exit(1);
         }
+    }
+
+    /** A text cut off at each place, and with each byte in each place. */
+    private static int everySlip(String text) {
+        int wrong = 0;
+        for (int at = 0; at <= text.length(); at++) {
+            wrong += readsAlike(text.substring(0, at));
+            for (int b = 0; b < 256 && at < text.length(); b++) {
+                wrong += readsAlike(text.substring(0, at) + (char) b + text.substring(at + 1));
+            }
+        }
+        return wrong;
+    }
+
+    private static int readsAlike(String text) {
+        MarkTreaties program = new MarkTreaties();
+        Model model = new Model();
+        for (int i = 0; i < text.length(); i++) {
+            program.feed(text.charAt(i), 1);
+            model.feed(text.charAt(i), 1);
+        }
+        int want = model.text();
+        boolean isAlike = program.text() == want && program.count(1) == model.count(1)
+                && program.seen(0) == model.seen(0) && program.seen(1) == model.seen(1);
+        for (int i = 0; i < 6; i++) {
+            isAlike &= program.listed(i) == model.listed(i);
+        }
+        for (int t = 0; t < model.count(1); t++) {
+            for (int what = 0; what < 8; what++) {
+                isAlike &= program.of(t, what) == model.of(t, what);
+            }
+        }
+        if (!isAlike) {
+            System.out.println("a text is read otherwise, due is " + want + ": " + text);
+        }
+        return isAlike ? 0 : 1;
     }
 
     private boolean agrees() throws Exception {

@@ -433,6 +433,7 @@ public final class TermsTests {
     private static void numbers() {
         text("9999 at most", "treaty 0 1 held 9999", 1);
         text("10000", "treaty 0 1 held 10000", -17);
+        text("99990", "treaty 0 1 held 99990", -17);
         text("one that would wrap to 1", "treaty 0 1 held 4294967297", -17);
         text("one that would wrap to 0", "up 18446744073709551616", -4);
         text("one of very many digits", "up 1" + "0".repeat(110), -4);
