@@ -513,7 +513,7 @@ public final class EdgeTests {
         due.is("25 renewed", renewed.wakings(1), 1);
         due.is("25 on the yard as it is by then", renewed.of(0, 3), renewed.seen(0));
         due.is("25 which has changed", renewed.seen(0) != 1 ? 1 : 0, 1);
-        // The event is told ahead of the year, too: seed 1 draws 5, then 4.
+        // The event is told ahead of the year, too: z 1 draws 10 by 13, then 8 by 12.
         MarkTreaties woken = Due.from("treaty 0 1 mark 4095");
         woken.wakings(1);
         due.is("25 the event of that year", woken.of(0, 4), woken.listed(0) == 12 ? 1 : 0);

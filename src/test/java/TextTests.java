@@ -20,7 +20,7 @@ public final class TextTests {
         due.is("28 n below", x.feed('a', -1), Due.BEYOND);
         due.is("28 two of four", x.feed(0x78787570, 2), 2);
         due.is("28 three", x.feed(0x7a203335, 3), 5);
-        due.is("5 count", x.count(5), 5);
+        due.is("41 bytes", x.count(5), 5);
         due.is("28 highest first", x.text(), 1);
         due.is("28 up 35", x.seen(1), 35);
         for (int i = 1; i <= 29; i++) {
